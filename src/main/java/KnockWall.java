@@ -656,7 +656,8 @@ public final class KnockWall {
 
   /** THE TAPE, and its TOKENS one by one. */
   private static final class Tape {
-    static final int TOKEN_NONE = 0, TOKEN_END = 1, TOKEN_NAME = 2, TOKEN_NUMBER = 3, TOKEN_SIGN = 4;
+    static final int TOKEN_NONE = 0, TOKEN_END = 1;
+    static final int TOKEN_NAME = 2, TOKEN_NUMBER = 3, TOKEN_SIGN = 4;
 
     final byte[] bytes = new byte[TAPE_MOST];
     int size;
@@ -791,15 +792,20 @@ public final class KnockWall {
     /** The first that is, letter by letter, the tape's bytes from there on, or -1. */
     int firstLike(Tape tape, int from, int length) {
       for (int i = 0; i < size; i++) {
-        int j = 0;
-        while (j < length && lengths[i] == length && letters[i * width + j] == tape.bytes[from + j]) {
-          j++;
-        }
-        if (j == length) {
+        if (lengths[i] == length && isLike(i, tape, from)) {
           return i;
         }
       }
       return -1;
+    }
+
+    private boolean isLike(int i, Tape tape, int from) {
+      for (int j = 0; j < lengths[i]; j++) {
+        if (letters[i * width + j] != tape.bytes[from + j]) {
+          return false;
+        }
+      }
+      return true;
     }
   }
 
