@@ -175,6 +175,30 @@ public final class Promises {
     due(4, "told(2)", x.told(2), 1);
     dueTable(4, x, FIRST_TABLE);
     due(4, "the sheets stay", x.lay(2, 4, 1), 1);
+    x.keep(0);
+    code(x, "");
+    due(4, "back(0)", x.back(0), STATE);
+  }
+
+  /** What an earlier code told, taken or not, is not in a later one. */
+  private static void codeOnceMore() {
+    KnockWall x = new KnockWall();
+    String all = "table abcdefghijklmnopqrstuvwxy; word ab 1; short a bc; slip 1 2; time 1 2 3; guard 0 9;";
+    for (int i = 0; i < 4; i++) {
+      due(4, "code() of all lines", code(x, all), 6);
+      due(4, "count(2)", x.count(2), 9);
+      say(x, "bc");
+      due(4, "takes(6)", x.takes(6), 1);
+    }
+    code(x, "short abc bc; guard 5 3; ?");
+    due(4, "a fault leaves the shorts", x.told(1), 1);
+    due(4, "code() without lines", code(x, ""), 0);
+    due(4, "count(2)", x.count(2), 0);
+    due(4, "code() of another guard", code(x, "short a de; guard 50 3;"), 2);
+    due(4, "count(2)", x.count(2), 3);
+    say(x, "bc de");
+    due(4, "takes(6)", x.takes(6), 1);
+    due(4, "takes(4)", x.takes(4), 7 + 2);
   }
 
   private static void dueFault(String text, int fault, int place) {
@@ -197,6 +221,9 @@ public final class Promises {
     dueFault(";", 2, 0);
     dueFault("word a 1;;", 2, 9);
     dueFault("words a 1;", 2, 0);
+    dueFault("xord a 1;", 2, 0);
+    dueFault("worx a 1;", 2, 0);
+    dueFault("tablx abc;", 2, 0);
     dueFault("wor", 2, 0);
     dueFault("word", 2, 4);
     dueFault("word   ", 2, 7);
@@ -228,6 +255,7 @@ public final class Promises {
     dueFault("time 1 0 1;", 3, 7);
     dueFault("time 1 1 0;", 3, 9);
     dueFault("time 100 1 1;", 3, 5);
+    dueFault("time 1 100 1;", 3, 7);
     dueFault("time 1 1 100;", 3, 9);
     dueFault("guard 600 1;", 3, 6);
     dueFault("guard 0 0;", 3, 8);
@@ -350,6 +378,10 @@ public final class Promises {
     dueSaying(x, "ab", 2, 1, 5, 39, 5, 39, 0);
     x.swap(0, 24);
     dueSaying(x, "hello", 5, 1, 26, 156, 4, 36, 1);
+    x = told("short a hello; short b hallo; short c world;");
+    dueSaying(x, "bello hellp hollo", 15, 3, 24 + 27 + 27, 78 * 3 + 90 + 144 + 48, 78, 516, 0);
+    dueSaying(x, "hallo", 5, 1, 22, 66 + 30 + 48, 3, 15, 1);
+    dueSaying(x, "world", 5, 1, 29, 87 + 30 + 48, 4, 18, 1);
     x = told("short zzz hello; short a hello;");
     dueSaying(x, "hello", 5, 1, 26, 156, 26, 156, 0);
     x = told("short ab kk; table kabcdefghijlmnopqrstuvwxy;");
@@ -409,6 +441,12 @@ public final class Promises {
     x.swap(0, 1);
     due(13, "mean(0)", x.mean(0), 21);
     due(15, "adopt()", x.adopt(), 2);
+    x = told("word zy 1;");
+    due(14, "best(0) asked first", x.best(0), 'y');
+    x = told("word zy 1;");
+    due(15, "adopt() asked first", x.adopt(), 24);
+    due(15, "table(0)", x.table(0), 'y');
+    due(15, "table(1)", x.table(1), 'z');
     x = told("word zzy 2; word y 2; word ax 99; table zyxwvutsrqponmlkjihgfedca;");
     due(13, "mean(0)", x.mean(0), 8 + 12 + 99 * 4 + 99 * 10);
     due(13, "mean(1)", x.mean(1), 99 * 2 + 99 * 3 + 4 * 3 + 4 * 4);
@@ -481,6 +519,26 @@ public final class Promises {
     due(22, "fits()", x.fits(), 7);
   }
 
+  /** Each call weighs anew. */
+  private static void chanceAnew() {
+    KnockWall x = told("word a 1; word z 1;");
+    hearAll(x, 0, 0);
+    due(22, "fits() of the least chance", x.fits(), 1);
+    due(19, "chance(0, 0)", x.chance(0, 0), 1);
+    hearAll(x, 5, 5);
+    due(22, "fits()", x.fits(), 2);
+    hearAll(x, 1, 1);
+    due(20, "likeliest()", x.likeliest(), 0);
+    hearAll(x, 6, 6);
+    due(20, "likeliest()", x.likeliest(), 1);
+    x = told("word a 1; word b 1;");
+    hearAll(x, 1, 0);
+    due(21, "sure(1)", x.sure(1), 1);
+    hearAll(x, 1, 1);
+    due(21, "sure(0)", x.sure(0), 18);
+    due(21, "sure(1)", x.sure(1), 19);
+  }
+
   private static void chanceRefused() {
     KnockWall x = told("word aaaaaa 99;word aaaaaa 99;word aaaaaa 99;word aaaaaa 99;word aaaaaa 99;"
         + "word aaaaaa 99;word aaaaaa 99;word aaaaaa 99;word aaaaaa 99;word aaaaaaaa 1;slip 0 0;");
@@ -536,6 +594,11 @@ public final class Promises {
     x = told("word a 1; word b 19;");
     dueRight(x, 0, 1, 1, 20);
     dueRight(x, 1, 1, 1, 1);
+    x = told("word a 1; word f 1;");
+    dueRight(x, 0, 1, 19, 20);
+    x = told("word aa 1; word a 99;");
+    dueRight(x, 0, 1, 1, 1);
+    dueRight(x, 1, 3, 1, 1);
     x = told("word ab 1; word ab 2; word ab 2;");
     dueRight(x, 0, 1, 0, 1);
     dueRight(x, 1, 1, 1, 1);
@@ -564,6 +627,7 @@ public final class Promises {
     dueMouths(x, 3, 3, 2, 237, 400);
     dueMouths(x, 1, 1, 2, 59, 80);
     dueMouths(x, 1, 5, 4, 81, 160000);
+    due(24, "mouths(1, 1, 10, 1)", x.mouths(1, 1, 10, 1) > 0 ? 1 : 0, 1);
     for (int bad : new int[] {0, 6, -1, LOW, HIGH}) {
       due(24, "mouths(bad, 1, 1, 0)", x.mouths(bad, 1, 1, 0), BAD);
       due(24, "mouths(1, bad, 1, 0)", x.mouths(1, bad, 1, 0), BAD);
@@ -577,6 +641,12 @@ public final class Promises {
     dueLetter(x, 12, 7, 1, 3, 40);
     dueLetter(x, 12, 11, 1, 3, 40);
     dueLetter(x, 12, 13, 1, 9, 80);
+    dueLetter(x, 1, 0, 1, 17, 200);
+    dueLetter(x, 5, 0, 1, 17, 200);
+    dueLetter(x, 1, 1, 1, 51, 80);
+    dueLetter(x, 4, 4, 1, 153, 200);
+    dueLetter(x, 4, 5, 3, 0, 1);
+    due(25, "letter(4, 4, 5, 0)", x.letter(4, 4, 5, 0) > 0 ? 1 : 0, 1);
     dueLetter(x, 0, 24, 0, 0, 1);
     dueLetter(x, 24, 24, 0, 1, 1);
     dueLetter(x, 0, 24, 4, 6561, 25600000000L);
@@ -599,6 +669,7 @@ public final class Promises {
     due(26, "becomes(0, 2)", x.becomes(0, 2), 6);
     due(26, "becomes(4, 2)", x.becomes(4, 2), 9);
     due(26, "becomes(20, 2)", x.becomes(20, 2), 21);
+    due(26, "becomes(0, 5)", x.becomes(0, 5), 12);
     code(x, "slip 9 0;");
     due(26, "becomes(24, 2)", x.becomes(24, 2), 18);
     code(x, "slip 9 9;");
@@ -679,10 +750,15 @@ public final class Promises {
       due(30, "begin(0, bad)", x.begin(0, bad), BAD);
       due(31, "nights(bad)", x.nights(bad), BAD);
     }
+    code(x, "guard 9 1;");
+    due(31, "nights(10) with nine minutes ahead", x.nights(10), 59);
+    due(31, "nights(9) with nine minutes ahead", x.nights(9), 1 + 65);
     code(x, "guard 299 2;");
     due(32, "longest(0) of two alike", x.longest(0), 299);
     due(32, "longest(1) of two alike", x.longest(1), 0);
     x = new KnockWall();
+    due(32, "longest(0)", x.longest(0), 600);
+    due(32, "longest(1)", x.longest(1), 0);
     due(30, "begin(0, 600)", x.begin(0, 600), 0);
     due(30, "begin(1, 600)", x.begin(1, 600), NONE);
     due(31, "nights(600)", x.nights(600), 1);
@@ -876,6 +952,11 @@ public final class Promises {
     due(43, "torn() CAST", x.torn(), 3);
     due(42, "read as of another lane, n 0", x.read(3, 0, 0, 0), 0);
     due(43, "torn()", x.torn(), 0);
+    x.sheet(0, 0, 3);
+    for (int lane = 1; lane < 3; lane++) {
+      due(42, "bytes read as of another lane", x.read(0, lane, 0, 2), 0);
+      due(43, "torn() CAST", x.torn(), 3);
+    }
     due(42, "read beyond the row", x.read(3, 1, 1, 5), 2);
     due(43, "torn() INDEX", x.torn(), 2);
     due(42, "count(0)", x.count(0), 3);
@@ -953,6 +1034,7 @@ public final class Promises {
     end();
     codeTakes();
     codeStandsOrStays();
+    codeOnceMore();
     faultsOfTokens();
     faultsOfBounds();
     faultsOfMany();
@@ -964,6 +1046,7 @@ public final class Promises {
     bestTable();
     hearing();
     chance();
+    chanceAnew();
     chanceRefused();
     right();
     mouths();
