@@ -1299,14 +1299,14 @@ public final class KnockWall {
     }
 
     private long goodWays(Code plan, int w, int once, int depth, int last) {
-      if (depth >= last) {
+      if (depth >= last || once < 1) {
         return topOf(depths[last], plan.words.size) == w ? depths[last][w] : 0;
       }
-      int sent = knocked[depth % once][w];
+      int[] sent = knocked[depth % once];
       long good = 0;
-      for (int heard = sent - 1; heard <= sent + 1; heard++) {
-        if (plan.slips(heard - sent) > 0) {
-          listen(plan, once, depth, heard);
+      for (int off = -1; off <= 1; off++) {
+        if (plan.slips(off) > 0) {
+          listen(plan, sent, depth, sent[w] + off);
           good += goodWays(plan, w, once, depth + 1, last);
         }
       }
@@ -1314,8 +1314,7 @@ public final class KnockWall {
     }
 
     /** Row depth + 1, if the next COUNT is heard so. */
-    private void listen(Code plan, int once, int depth, int heard) {
-      int[] sent = knocked[depth % once];
+    private void listen(Code plan, int[] sent, int depth, int heard) {
       long[] before = depths[depth];
       long[] after = depths[depth + 1];
       for (int v = 0; v < plan.words.size; v++) {
