@@ -296,6 +296,34 @@ public final class Promises {
     due(5, "fault() of a code that is taken", x.fault(), 0);
   }
 
+  /** THE TAPE to its last byte, and as many WORDS as there can be. */
+  private static void mostOfAll() {
+    dueFault("a".repeat(320), 2, 0);
+    dueFault("word a " + " ".repeat(312) + "1", 2, 320);
+    dueFault(" ".repeat(319) + "5", 2, 319);
+    dueFault(" ".repeat(316) + "5555", 1, 316);
+    KnockWall x = new KnockWall();
+    due(4, "code() of 320 blanks", code(x, " ".repeat(320)), 0);
+    due(4, "code() of 320 bytes", code(x, "word a " + " ".repeat(311) + "1;"), 1);
+    StringBuilder ten = new StringBuilder();
+    for (char c = 'a'; c < 'k'; c++) {
+      ten.append("word ").append(c).append(" 9;");
+    }
+    code(x, ten.toString());
+    due(36, "ask(0, 1, 0) of ten words", x.ask(0, 1, 0), NONE);
+    due(34, "said(9, 0, 1)", x.said(9, 0, 1), 2);
+    due(36, "ask(0, 1, 0) of ten words", x.ask(0, 1, 0), 9);
+    due(37, "heardBy(1) of ten words", x.heardBy(1), 9);
+    due(13, "mean(0) of ten words", x.mean(0), 9 * (20 + 25));
+    due(14, "best(24) of ten words", x.best(24), 'z');
+    due(23, "right(9, 1, 0) of ten words", x.right(9, 1, 0) > 0 ? 1 : 0, 1);
+    due(23, "right(9, 1, 2) of ten words", x.right(9, 1, 2), BAD);
+    due(33, "teach(2) of ten words", x.teach(2), 1023);
+    hearAll(x, 2, 5);
+    due(20, "likeliest() of ten words", x.likeliest(), 9);
+    due(22, "fits() of ten words", x.fits(), 1 << 9 | 1 << 8 | 1 << 4 | 1 << 3);
+  }
+
   private static void toldAndTable() {
     KnockWall x = told("word a 1;word b 1;word c 1;short a bb;short a cc;slip 4 5;time 7 8 9;guard 1 1;");
     int[] want = {3, 2, 4, 5, 7, 8, 9, 1};
@@ -593,6 +621,9 @@ public final class Promises {
     dueRight(x, 0, 1, 19, 20);
     x = told("word a 1; word b 19;");
     dueRight(x, 0, 1, 1, 20);
+    dueRight(x, 1, 1, 1, 1);
+    x = told("word a 1; word b 1; slip 0 5;");
+    dueRight(x, 0, 1, 3, 4);
     dueRight(x, 1, 1, 1, 1);
     x = told("word a 1; word f 1;");
     dueRight(x, 0, 1, 19, 20);
@@ -1038,6 +1069,7 @@ public final class Promises {
     faultsOfTokens();
     faultsOfBounds();
     faultsOfMany();
+    mostOfAll();
     toldAndTable();
     word();
     swap();
