@@ -1,66 +1,5 @@
 /** Each promise of the document: ordinary inputs, the edges that it names, wrong inputs. */
-public final class Promises {
-  private static final int BAD = -1, STATE = -2, FULL = -3, NONE = -4;
-  private static final int LOW = Integer.MIN_VALUE, HIGH = Integer.MAX_VALUE;
-  private static final String FIRST_TABLE = "abcdefghijlmnopqrstuvwxyz";
-  private static int wrong = 0;
-
-  private static void due(int promise, String call, long got, long want) {
-    if (got != want) {
-      wrong++;
-      System.out.println("promise " + promise + ": " + call + " answered " + got + ", due is " + want);
-    }
-  }
-
-  /** Puts a text behind the tape. */
-  private static void type(KnockWall x, String text) {
-    int size = x.count(4);
-    for (int i = 0; i < text.length(); i += 8) {
-      long v = 0;
-      for (int j = i; j < i + 8; j++) {
-        v = v << 8 | (j < text.length() ? text.charAt(j) & 255 : 32);
-      }
-      if (x.feed(v) < 0) {
-        throw new IllegalStateException("the test's text is too long: " + text);
-      }
-    }
-    x.end(size + text.length());
-  }
-
-  private static int code(KnockWall x, String text) {
-    x.end(0);
-    type(x, text);
-    return x.code();
-  }
-
-  private static KnockWall told(String text) {
-    KnockWall x = new KnockWall();
-    if (code(x, text) < 0) {
-      throw new IllegalStateException("the test's code has a fault: " + text);
-    }
-    return x;
-  }
-
-  private static void hearAll(KnockWall x, int... counts) {
-    x.hush();
-    for (int n : counts) {
-      x.hear(n);
-    }
-  }
-
-  private static void say(KnockWall x, String text) {
-    x.end(0);
-    type(x, text);
-  }
-
-  private static String tableOf(KnockWall x) {
-    StringBuilder text = new StringBuilder();
-    for (int p = 0; p < 25; p++) {
-      text.append((char) x.table(p));
-    }
-    return text.toString();
-  }
-
+public final class Promises extends Bench {
   private static void dueTable(int promise, KnockWall x, String want) {
     due(promise, "the table " + tableOf(x) + " is " + want, tableOf(x).equals(want) ? 1 : 0, 1);
   }
@@ -414,12 +353,8 @@ public final class Promises {
     dueSaying(x, "hello", 5, 1, 26, 156, 26, 156, 0);
     x = told("short ab kk; table kabcdefghijlmnopqrstuvwxy;");
     dueSaying(x, "kk k", 3, 2, 6, 18 + 18 + 12 + 24, 6, 72, 0);
-    StringBuilder most = new StringBuilder();
-    for (int i = 0; i < 320; i++) {
-      most.append('z');
-    }
     x = told("time 99 99 99;");
-    dueSaying(x, most.toString(), 320, 1, 3200, 99 * (3200 + 320 + 319), 3200, 99 * 3839, 0);
+    dueSaying(x, "z".repeat(320), 320, 1, 3200, 99 * (3200 + 320 + 319), 3200, 99 * 3839, 0);
   }
 
   private static void dueNoSaying(KnockWall x, String text, int place) {
@@ -568,12 +503,9 @@ public final class Promises {
   }
 
   private static void chanceRefused() {
-    KnockWall x = told("word aaaaaa 99;word aaaaaa 99;word aaaaaa 99;word aaaaaa 99;word aaaaaa 99;"
-        + "word aaaaaa 99;word aaaaaa 99;word aaaaaa 99;word aaaaaa 99;word aaaaaaaa 1;slip 0 0;");
     for (int n = 0; n <= 24; n++) {
-      int[] ones = new int[n];
-      java.util.Arrays.fill(ones, 1);
-      hearAll(x, ones);
+      KnockWall x = told("word aaaaaa 99;".repeat(9) + "word aaaaaaaa 1;slip 0 0;");
+      hearOnly(x, n, 1);
       boolean weighed = n > 0 && n % 2 == 0 && n <= 12;
       due(19, "chance(0, 0) of " + n, x.chance(0, 0), n == 12 ? 405504000000000000L : weighed ? 0 : STATE);
       due(19, "chance(9, 1) of " + n, x.chance(9, 1), n == 12 ? 3649536000000000000L : weighed ? 0 : STATE);
@@ -1093,9 +1025,6 @@ public final class Promises {
     reads();
     readsWithoutRoom();
     count();
-    System.out.println(wrong == 0 ? "all answers are as due" : wrong + " answers are not as due");
-    if (wrong != 0) {
-      System.exit(1);
-    }
+    close();
   }
 }
