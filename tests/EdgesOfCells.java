@@ -30,6 +30,16 @@ public final class EdgesOfCells extends Bench {
     dueLesson("word a 1;".repeat(9) + "word b 1;", 5, 2, 513);
   }
 
+  private static void wordsNoLongerTold() {
+    says("TEACHING: some WORDS, none that an earlier code told");
+    KnockWall x = told("word zzzzzzzz 1;word z 1;");
+    due("teach(0) of two", x.teach(0), 10);
+    code(x, "");
+    code(x, "word zzzzzzzz 1;");
+    due("teach(0) of one", x.teach(0), 80);
+    due("teach(2) of one", x.teach(2), 1);
+  }
+
   private static void fewestKnocks() {
     says("TEACHING: the fewest KNOCKS");
     dueLesson("word abcdd 1;word ab 1;word cd 1;", 14, 2, 6);
@@ -195,6 +205,7 @@ public final class EdgesOfCells extends Bench {
   public static void main(String[] args) {
     teachBounds();
     noneAndAll();
+    wordsNoLongerTold();
     fewestKnocks();
     fewestWords();
     leastBits();

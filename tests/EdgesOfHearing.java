@@ -286,6 +286,10 @@ public final class EdgesOfHearing extends Bench {
     dueRight(loud, 1, 3, 1, 1);
     dueRight("word abc 1;word abd 1;word abb 1;", 0, 1, 9, 10);
     dueRight("word zzz 2;word zzy 1;word zyz 1;slip 2 3;", 0, 1, 81, 100);
+    dueRight("word a 1;word b 1;slip 0 5;", 0, 1, 3, 4);
+    dueRight("word a 1;word b 1;slip 0 5;", 1, 1, 1, 1);
+    dueRight("word b 1;word a 1;slip 5 0;", 0, 1, 3, 4);
+    dueRight("word b 1;word a 1;slip 5 0;", 1, 1, 1, 1);
     says("0, if it is off by more than 1");
     dueRight("word a 1;word c 1;", 0, 1, 1, 1);
     dueRight("word a 1;word c 1;", 1, 1, 19, 20);

@@ -204,6 +204,10 @@ public final class EdgesOfSayings extends Bench {
     dueBounds("mean(#)", x::mean, 0, 79200, 1, 15840);
     x = told("word a 1;");
     dueBounds("mean(#)", x::mean, 0, 2, 1, 2);
+    x = told("word e 1;");
+    dueBounds("mean(#)", x::mean, 0, 6, 1, 2);
+    x = told("word v 1;");
+    dueBounds("mean(#)", x::mean, 0, 6, 1, 2);
     x = told("word abcdefgh 1;word ijlmnopq 1;word rstuvwxy 1;word z 2;");
     dueBounds("mean(#)", x::mean, 0, 160, 1, 152);
   }

@@ -54,6 +54,7 @@ public final class EdgesOfSheets extends Bench {
     x.said(0, 0, 10);
     x.adopt();
     x.swap(0, 24);
+    hearOnly(x, 24, 6);
     due("back(1) behind changes", x.back(1), 2);
     due("what was heard", heardOf(x), "12");
     due("knows(0)", x.knows(0), 16);

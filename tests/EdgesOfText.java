@@ -66,6 +66,15 @@ public final class EdgesOfText extends Bench {
     due("place(l)", x.place('l'), 10);
   }
 
+  private static void lastCall() {
+    says("An object is used for at most 512 calls after it has been made");
+    KnockWall x = new KnockWall();
+    for (int i = 0; i < 511; i++) {
+      x.swap(0, 24);
+    }
+    due("table(0), the 512th call", x.table(0), 'z');
+  }
+
   // ---- feed, end
 
   private static void highestByteFirst() {
@@ -166,6 +175,28 @@ public final class EdgesOfText extends Bench {
     due("count(4) behind FAULT 6", x.count(4), 0);
   }
 
+  private static void bytesBehindTheEnd() {
+    says(3, "THE TAPE keeps its first n bytes");
+    String text = "word ab 12;word cd 34;";
+    for (int n = 0; n <= text.length(); n++) {
+      KnockWall cut = new KnockWall();
+      type(cut, text);
+      cut.end(n);
+      KnockWall whole = new KnockWall();
+      type(whole, text.substring(0, n));
+      due("code() of a tape cut to " + n, cut.code(), whole.code());
+      due("fault() of a tape cut to " + n, cut.fault(), whole.fault());
+    }
+    dueFault("a".repeat(320), 2, 0);
+    KnockWall x = new KnockWall();
+    type(x, "word abcd");
+    x.end(7);
+    due("code() of 'word ab'", x.code(), -17);
+    type(x, "word a 123");
+    x.end(8);
+    due("code() of 'word a 1'", x.code(), -18);
+  }
+
   private static void placeOfTheFault() {
     says(4, "-10 less the place of its FAULT");
     dueFault("?", 1, 0);
@@ -199,22 +230,46 @@ public final class EdgesOfText extends Bench {
   }
 
   private static void whatNoLineTells() {
-    says("what no line tells is as at first");
-    KnockWall x = told(OTHER);
-    due("code() of no line", x.code(), 0);
-    int[] first = {0, 0, 1, 1, 3, 6, 12, 0};
-    for (int what = 0; what < first.length; what++) {
-      due("told(" + what + ")", x.told(what), first[what]);
-    }
-    due("the table", tableOf(x), FIRST_TABLE);
-    due("count(2)", x.count(2), 0);
-    due("word(0, 0)", x.word(0, 0), BAD);
+    says("A code that is taken stands in place of what there was (what no line tells is as at first)");
     for (View view : View.values()) {
-      KnockWall busy = Walls.BUSY.make();
-      code(busy, "");
       boolean stays = view == View.SHEETS || view == View.MORE_SHEETS || view == View.TORN;
-      due(view + " behind a code of no line", view.of(busy), view.of((stays ? Walls.BUSY : Walls.NEW).make()));
+      String want = view.of((stays ? Walls.BUSY : Walls.NEW).make());
+      KnockWall x = Walls.BUSY.make();
+      due("code() of no line", code(x, ""), 0);
+      due(view + " behind a code of no line", view.of(x), want);
+      KnockWall later = Walls.BUSY.make();
+      code(later, OTHER);
+      code(later, "");
+      due("code() of no line once more", code(later, ""), 0);
+      due(view + " behind some codes", view.of(later), want);
     }
+  }
+
+  private static void whatEachLineTells() {
+    says("A code that is taken stands in place of what there was");
+    for (View view : View.values()) {
+      KnockWall x = told(OTHER + "guard 90 5;");
+      code(x, "word b 5;short c de;guard 5 9;");
+      code(x, OTHER + "?");
+      for (int i = 0; i < 2; i++) {
+        due("code() of " + OTHER, code(x, OTHER), 6);
+      }
+      due(view + " behind some codes", view.of(x), view.of(told(OTHER)));
+    }
+    String fewer = "word bcccc 1;short a bc;guard 5 1;";
+    for (View view : View.values()) {
+      boolean stays = view == View.SHEETS || view == View.MORE_SHEETS;
+      KnockWall crowded = Walls.CROWDED.make();
+      View.CELLS.of(crowded);
+      code(crowded, "");
+      code(crowded, fewer);
+      due(view + " of fewer lines than before", view.of(crowded), view.of(stays ? Walls.CROWDED.make() : told(fewer)));
+    }
+    KnockWall x = told(OTHER);
+    code(x, "");
+    code(x, "short a bc;");
+    say(x, "zy bc");
+    due("takes(6) by the latest SHORTS", x.takes(6), 1);
   }
 
   private static void whatACodeTakesAway() {
@@ -638,6 +693,7 @@ public final class EdgesOfText extends Bench {
     newText();
     newSheets();
     firstTableHasNoK();
+    lastCall();
     highestByteFirst();
     feedOfAnyByte();
     feedFull();
@@ -646,9 +702,11 @@ public final class EdgesOfText extends Bench {
     endOfAll();
     codeOfNothing();
     codeEmptiesTheTape();
+    bytesBehindTheEnd();
     placeOfTheFault();
     whatWasToldStays();
     whatNoLineTells();
+    whatEachLineTells();
     whatACodeTakesAway();
     latestFault();
   }
