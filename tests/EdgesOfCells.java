@@ -175,6 +175,9 @@ public final class EdgesOfCells extends Bench {
     x.said(1, 2, 4);
     dueBounds("heardBy(#)", x::heardBy, 0, 8, 2, 3);
     due("heardBy(1)", x.heardBy(1), 1);
+  }
+
+  private static void heardByWithoutWords() {
     says(37, "NONE: no WORDS; (2; 0)");
     KnockWall none = new KnockWall();
     dueBounds("heardBy(#) without WORDS", none::heardBy, 0, 11, 2, 0);
@@ -193,8 +196,14 @@ public final class EdgesOfCells extends Bench {
     due("heardBy(2) of ten", x.heardBy(2), 10);
     x.said(3, 10, 10);
     due("heardBy(0) of all", x.heardBy(0), 0);
+  }
+
+  private static void heardByOfSeveral() {
+    says(37, "the WORD that most CELLS have heard, of several the least (1)");
+    KnockWall x = told("word a 1;".repeat(10));
+    x.said(9, 0, 9);
+    x.said(3, 10, 10);
     due("heardBy(1)", x.heardBy(1), 9);
-    says(37, "of several the least (1)");
     x.said(8, 10, 1);
     due("heardBy(1) of two alike", x.heardBy(1), 8);
     x.said(0, 10, 0);
@@ -217,7 +226,9 @@ public final class EdgesOfCells extends Bench {
     bothAndNone();
     askOfSeveral();
     heardByBounds();
+    heardByWithoutWords();
     heardByNoneOrAll();
+    heardByOfSeveral();
     close();
   }
 }

@@ -23,8 +23,13 @@ public final class EdgesOfHearing extends Bench {
     due("hear(5), the 25th", x.hear(5), FULL);
     due("count(0)", x.count(0), 24);
     due("heard(23)", x.heard(23), 4);
+  }
+
+  private static void hearBadAheadOfFull() {
     says("BAD, STATE, FULL, NONE: the first that fits");
-    dueBad("hear(#), the 25th", x::hear, -1, 7, LOW, HIGH);
+    KnockWall x = new KnockWall();
+    hearOnly(x, 24, 3);
+    dueBounds("hear(#), the 25th", x::hear, 0, FULL, 6, FULL);
   }
 
   private static void hushes() {
@@ -137,22 +142,52 @@ public final class EdgesOfHearing extends Bench {
     }
   }
 
-  private static void oddNoneOrMore() {
+  /** Objects that have heard 0 to 24 times a COUNT that gives no WORD a CHANCE. */
+  private static KnockWall[] allCounts() {
+    KnockWall[] all = new KnockWall[25];
     for (int counts = 0; counts <= 24; counts++) {
-      KnockWall x = told("word a 1;word bbbbbb 2;");
-      hearOnly(x, counts, 6);
-      boolean weighed = counts > 0 && counts % 2 == 0 && counts <= 12;
-      says(19, "STATE: the COUNTS are odd, none, or more than 12");
-      due("chance(0, 0) of " + counts, x.chance(0, 0), weighed ? 0 : STATE);
-      due("chance(1, 1) of " + counts, x.chance(1, 1), weighed ? 0 : STATE);
-      says(20, "STATE likewise; NONE: no CHANCE at all");
-      due("likeliest() of " + counts, x.likeliest(), weighed ? NONE : STATE);
-      says(21, "BAD; STATE, NONE likewise");
-      due("sure(0) of " + counts, x.sure(0), weighed ? NONE : STATE);
-      due("sure(1) of " + counts, x.sure(1), weighed ? NONE : STATE);
-      dueBad("sure(#) of " + counts, x::sure, -1, 2, LOW, HIGH);
-      says(22, "STATE likewise");
-      due("fits() of " + counts, x.fits(), weighed ? 0 : STATE);
+      all[counts] = told("word a 1;word bbbbbb 2;");
+      hearOnly(all[counts], counts, 6);
+    }
+    return all;
+  }
+
+  private static boolean isOddNoneOrMore(int counts) {
+    return counts == 0 || counts % 2 == 1 || counts > 12;
+  }
+
+  private static void chanceOddNoneOrMore() {
+    says(19, "STATE: the COUNTS are odd, none, or more than 12");
+    KnockWall[] all = allCounts();
+    for (int counts = 0; counts <= 24; counts++) {
+      long want = isOddNoneOrMore(counts) ? STATE : 0;
+      due("chance(0, 0) of " + counts, all[counts].chance(0, 0), want);
+      due("chance(1, 1) of " + counts, all[counts].chance(1, 1), want);
+    }
+  }
+
+  private static void likeliestOddNoneOrMore() {
+    says(20, "STATE likewise; NONE: no CHANCE at all");
+    KnockWall[] all = allCounts();
+    for (int counts = 0; counts <= 24; counts++) {
+      due("likeliest() of " + counts, all[counts].likeliest(), isOddNoneOrMore(counts) ? STATE : NONE);
+    }
+  }
+
+  private static void sureOddNoneOrMore() {
+    says(21, "BAD; STATE, NONE likewise");
+    KnockWall[] all = allCounts();
+    for (int counts = 0; counts <= 24; counts++) {
+      long want = isOddNoneOrMore(counts) ? STATE : NONE;
+      dueBounds("sure(#) of " + counts, all[counts]::sure, 0, want, 1, want);
+    }
+  }
+
+  private static void fitsOddNoneOrMore() {
+    says(22, "STATE likewise");
+    KnockWall[] all = allCounts();
+    for (int counts = 0; counts <= 24; counts++) {
+      due("fits() of " + counts, all[counts].fits(), isOddNoneOrMore(counts) ? STATE : 0);
     }
   }
 
@@ -255,11 +290,16 @@ public final class EdgesOfHearing extends Bench {
     dueBounds("right(#, 1, 1)", w -> x.right(w, 1, 1), 0, 20, 2, 20);
     dueBounds("right(0, #, 1)", n -> x.right(0, n, 1), 1, 20, 3, 1600);
     dueBounds("right(0, 1, #)", what -> x.right(0, 1, what), 0, 19, 1, 20);
-    says("BAD, STATE, FULL, NONE: the first that fits");
-    dueBad("right(1, #, 0)", n -> x.right(1, n, 0), 0, 4, LOW, HIGH);
-    dueBad("right(1, 1, #)", what -> x.right(1, 1, what), -1, 2, LOW, HIGH);
     KnockWall none = new KnockWall();
     dueBad("right(#, 1, 0) without WORDS", w -> none.right(w, 1, 0), -1, 0, 1);
+  }
+
+  private static void rightBadAheadOfState() {
+    says("BAD, STATE, FULL, NONE: the first that fits");
+    KnockWall x = told("word a 1;word lmnopqrs 1;");
+    due("right(1, 1, 0)", x.right(1, 1, 0), STATE);
+    dueBad("right(1, #, 0)", n -> x.right(1, n, 0), 0, 4, LOW, HIGH);
+    dueBad("right(1, 1, #)", what -> x.right(1, 1, what), -1, 2, LOW, HIGH);
   }
 
   private static void dueRight(String text, int w, int n, long top, long bottom) {
@@ -290,6 +330,9 @@ public final class EdgesOfHearing extends Bench {
     dueRight("word a 1;word b 1;slip 0 5;", 1, 1, 1, 1);
     dueRight("word b 1;word a 1;slip 5 0;", 0, 1, 3, 4);
     dueRight("word b 1;word a 1;slip 5 0;", 1, 1, 1, 1);
+  }
+
+  private static void rightOffByMore() {
     says("0, if it is off by more than 1");
     dueRight("word a 1;word c 1;", 0, 1, 1, 1);
     dueRight("word a 1;word c 1;", 1, 1, 19, 20);
@@ -310,6 +353,7 @@ public final class EdgesOfHearing extends Bench {
   public static void main(String[] args) {
     hearBounds();
     hearFull();
+    hearBadAheadOfFull();
     hushes();
     heardBounds();
     offByMore();
@@ -317,7 +361,10 @@ public final class EdgesOfHearing extends Bench {
     leastAndGreatestSlip();
     leastAndGreatestWeight();
     halfAsMany();
-    oddNoneOrMore();
+    chanceOddNoneOrMore();
+    likeliestOddNoneOrMore();
+    sureOddNoneOrMore();
+    fitsOddNoneOrMore();
     chanceBounds();
     greatestChance();
     leastOfSeveral();
@@ -325,8 +372,10 @@ public final class EdgesOfHearing extends Bench {
     fitsAboveNothing();
     rightLetters();
     rightBounds();
+    rightBadAheadOfState();
     rightOrNever();
     rightSeveral();
+    rightOffByMore();
     rightWhateverWasHeard();
     close();
   }

@@ -62,8 +62,13 @@ public final class EdgesOfNight extends Bench {
     dueStill("guard 5 10;guard 15 2;", 5, 16, 12);
     dueStill("guard 7 1;guard 5 10;", 5, 14, 10);
     dueStill("guard 0 60;guard 60 60;guard 120 60;guard 180 60;guard 240 60;guard 300 60;", 0, 359, 360);
+  }
+
+  private static void countOfStill() {
     says(44, "2 STILL MINUTES");
     due("count(2) without guards", new KnockWall().count(2), 0);
+    due("count(2) of one", told("guard 599 60;").count(2), 1);
+    due("count(2) of one told twice", told("guard 7 1;guard 7 1;").count(2), 1);
   }
 
   // ---- begin
@@ -166,6 +171,7 @@ public final class EdgesOfNight extends Bench {
     firstThatIsNot();
     firstThatIs();
     guardsInTheNight();
+    countOfStill();
     beginBounds();
     rowsInTheNight();
     rowsBetweenGuards();

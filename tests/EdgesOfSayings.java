@@ -1,5 +1,7 @@
 /** The edges that the document names for sayings and the tongue: promises 11 to 15. */
 public final class EdgesOfSayings extends Bench {
+  private static final String BEST_OF_NO_TONGUE = "abdglcehmqfinrujosvxptwyz";
+
   /** takes(0), takes(1) and so on of a text. */
   private static void dueTakes(KnockWall x, String text, int... want) {
     say(x, text);
@@ -28,7 +30,11 @@ public final class EdgesOfSayings extends Bench {
     dueTakes(x, "a ", 1, 1, 2, 12);
     dueTakes(x, " ".repeat(319) + "a", 1, 1, 2, 12);
     dueTakes(x, "a" + " ".repeat(319), 1, 1, 2, 12);
+  }
+
+  private static void emptyOfLetters() {
     says(12, "the length, if it is empty of letters");
+    KnockWall x = new KnockWall();
     dueNoSaying(x, "", 0);
     dueNoSaying(x, " ", 1);
     dueNoSaying(x, "        ", 8);
@@ -83,8 +89,11 @@ public final class EdgesOfSayings extends Bench {
     KnockWall x = told("short a zz;");
     say(x, "zz b zz");
     dueBounds("takes(#)", x::takes, 0, 5, 6, 2);
+  }
+
+  private static void takesOfNone() {
     says(11, "BAD; STATE: it is none");
-    x.end(0);
+    KnockWall x = new KnockWall();
     dueBounds("takes(#) of nothing", x::takes, 0, STATE, 6, STATE);
   }
 
@@ -184,18 +193,25 @@ public final class EdgesOfSayings extends Bench {
     says(13, "MEAN, of no WORDS");
     KnockWall x = new KnockWall();
     dueBounds("mean(#)", x::mean, 0, 0, 1, 0);
+  }
+
+  private static void bestOfNoTongue() {
     says(14, "of several the first of the alphabet; of several the least PLACE");
-    String want = "abdglcehmqfinrujosvxptwyz";
+    KnockWall x = new KnockWall();
     for (int p = 0; p < 25; p++) {
-      due("best(" + p + ")", x.best(p), want.charAt(p));
+      due("best(" + p + ")", x.best(p), BEST_OF_NO_TONGUE.charAt(p));
     }
+  }
+
+  private static void adoptNoneOrAll() {
     says(15, "how many PLACES have another letter than before");
+    KnockWall x = new KnockWall();
     due("adopt()", x.adopt(), 18);
-    due("the table", tableOf(x), want);
+    due("the table", tableOf(x), BEST_OF_NO_TONGUE);
     due("adopt() once more", x.adopt(), 0);
     x = told("table bdglcehmqfinrujosvxptwyza;");
     due("adopt() of a table that has none at its PLACE", x.adopt(), 25);
-    due("the table", tableOf(x), want);
+    due("the table", tableOf(x), BEST_OF_NO_TONGUE);
   }
 
   private static void meanBounds() {
@@ -252,9 +268,11 @@ public final class EdgesOfSayings extends Bench {
 
   public static void main(String[] args) {
     oneAtLeast();
+    emptyOfLetters();
     lettersOfTheTable();
     firstPlace();
     takesBounds();
+    takesOfNone();
     gaps();
     leastAndMostTime();
     knocksByPlace();
@@ -264,6 +282,8 @@ public final class EdgesOfSayings extends Bench {
     everyShort();
     mostNames();
     noTongue();
+    bestOfNoTongue();
+    adoptNoneOrAll();
     meanBounds();
     bestBounds();
     tongueTies();

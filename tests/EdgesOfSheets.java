@@ -93,7 +93,12 @@ public final class EdgesOfSheets extends Bench {
     due("sheet(0, 0, -1)", x.sheet(0, 0, -1), -14);
     due("sheet(0, 0, LOW)", x.sheet(0, 0, LOW), -14);
     due("count(5)", x.count(5), 40);
+  }
+
+  private static void sheetBadAheadOfSize() {
     says("BAD, the first that fits");
+    KnockWall x = new KnockWall();
+    due("sheet(0, 0, -1)", x.sheet(0, 0, -1), -14);
     dueBad("sheet(#, 0, -1)", k -> x.sheet(k, 0, -1), -1, 4);
     dueBad("sheet(0, #, -1)", lane -> x.sheet(0, lane, -1), -1, 3);
   }
@@ -427,6 +432,7 @@ public final class EdgesOfSheets extends Bench {
     imageIsACopy();
     imageHasNoMore();
     sheetBounds();
+    sheetBadAheadOfSize();
     newRow();
     sheetsApart();
     layBounds();

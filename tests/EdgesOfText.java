@@ -332,6 +332,9 @@ public final class EdgesOfText extends Bench {
     dueTaken("guard 05 1;", 1);
     dueTaken("guard 005 1;", 1);
     dueTaken("guard 599 060;", 1);
+  }
+
+  private static void numbersTooLong() {
     says("1 no TOKEN, a NUMBER that is too long (its first byte)");
     dueFault("guard 0005 1;", 1, 6);
     dueFault("guard 1000 1;", 1, 6);
@@ -357,6 +360,9 @@ public final class EdgesOfText extends Bench {
     dueTaken(" ".repeat(311) + "word a 1;", 1);
     dueTaken("word a 1;" + " ".repeat(311), 1);
     dueTaken("word" + " ".repeat(312) + "a 1;", 1);
+  }
+
+  private static void noBlanks() {
     says("one at least between two NAMES, between two NUMBERS; else none is needed");
     dueTaken("word ab12;word cd34;", 2);
     dueTaken("slip0 9;time1 2 3;guard599 60;", 3);
@@ -402,10 +408,10 @@ public final class EdgesOfText extends Bench {
   }
 
   private static void anotherToken() {
+    says("2 a TOKEN that can not stand there");
     for (String[] line : LINES) {
       for (int i = 0; i < line.length; i++) {
         String text = i == 0 ? "" : head(line, i) + " ";
-        says("2 a TOKEN that can not stand there");
         if (!isName(line[i])) {
           dueFault(text + "a", 2, text.length());
         }
@@ -416,7 +422,15 @@ public final class EdgesOfText extends Bench {
         if (!line[i].equals(";")) {
           dueFault(text + ";", 2, text.length());
         }
-        says("1 no TOKEN, a NUMBER that is too long (its first byte)");
+      }
+    }
+  }
+
+  private static void noToken() {
+    says("1 no TOKEN, a NUMBER that is too long (its first byte)");
+    for (String[] line : LINES) {
+      for (int i = 0; i < line.length; i++) {
+        String text = i == 0 ? "" : head(line, i) + " ";
         dueFault(text + "?", 1, text.length());
         dueFault(text + "1000", 1, text.length());
       }
@@ -590,7 +604,11 @@ public final class EdgesOfText extends Bench {
     String noA = "table bcdefghijklmnopqrstuvwxyz;";
     dueTaken("word k 1;short k kk;" + noA, 3);
     dueTaken(noA + "word k 1;short k kk;", 3);
+  }
+
+  private static void lettersThatTheTableHasNot() {
     says("Behind all (the length): 6 a letter of a WORD, a SHORT, or what it is for, that THE TABLE has not");
+    String noA = "table bcdefghijklmnopqrstuvwxyz;";
     dueFault("word k 1;", 6, 9);
     dueFault("word k 1; ", 6, 10);
     dueFault("word abcdefgk 1;", 6, 16);
@@ -647,8 +665,12 @@ public final class EdgesOfText extends Bench {
     KnockWall x = new KnockWall();
     dueBounds("place(#)", x::place, 'a', 0, 'z', 24);
     dueBad("place(#)", x::place, 0, -1, 'A', 'Z', ' ', 'a' + 256, 'a' - 256);
+  }
+
+  private static void placeOfNone() {
     says(8, "NONE: THE TABLE has it not");
-    x = told("table bcdefghijklmnopqrstuvwxyz;");
+    due("place(k) at first", new KnockWall().place('k'), NONE);
+    KnockWall x = told("table bcdefghijklmnopqrstuvwxyz;");
     dueBounds("place(#)", x::place, 'a', NONE, 'z', 24);
     x = told("table abcdefghijklmnopqrstuvwxy;");
     dueBounds("place(#)", x::place, 'a', 0, 'z', NONE);
@@ -714,11 +736,14 @@ public final class EdgesOfText extends Bench {
   private static void lines() {
     everyByte();
     numbersOfFigures();
+    numbersTooLong();
     asLongAsMayBe();
     blanks();
+    noBlanks();
     everyLine();
     theEnd();
     anotherToken();
+    noToken();
     namesThatBeginNoLine();
     tableLine();
     wordLine();
@@ -729,6 +754,7 @@ public final class EdgesOfText extends Bench {
     tooMany();
     twice();
     lettersBehindAll();
+    lettersThatTheTableHasNot();
     firstMet();
   }
 
@@ -737,6 +763,7 @@ public final class EdgesOfText extends Bench {
     toldMost();
     tableBounds();
     placeBounds();
+    placeOfNone();
     wordBounds();
     wordWhat();
     swapBounds();
