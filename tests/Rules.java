@@ -124,6 +124,23 @@ public final class Rules {
     }
   }
 
+  /** Rule 8: a method that calls itself is private and static. */
+  private static void recursion() throws IOException {
+    String source = bare(Files.readString(Path.of("src/main/java/KnockWall.java")));
+    Matcher method = Pattern.compile("(?ms)^( +)([\\w ]*?)[\\w\\[\\]]+ (\\w+)\\([^)]*\\) \\{\n(.*?)^\\1\\}").matcher(source);
+    int methods = 0;
+    int recursive = 0;
+    for (int at = 0; method.find(at); at = method.end(3)) {
+      methods++;
+      // Behind a dot stands another object's method of the same name.
+      if (Pattern.compile("(?<!\\.)\\b" + method.group(3) + "\\(").matcher(method.group(4)).find()) {
+        recursive++;
+        must(method.group(2).equals("private static "), "calls itself, but is not private static: " + method.group(3));
+      }
+    }
+    must(methods > FACE.length && recursive == 2, "two of all methods call themselves: " + recursive + " of " + methods);
+  }
+
   /** What a run makes is counted: no call makes an object, only constructors do. */
   private static void room() throws IOException {
     String source = bare(Files.readString(Path.of("src/main/java/KnockWall.java")));
@@ -138,6 +155,7 @@ public final class Rules {
     face();
     classes();
     text();
+    recursion();
     room();
     System.out.println(wrong == 0 ? "all rules hold" : wrong + " rules do not hold");
     if (wrong != 0) {

@@ -1295,19 +1295,19 @@ public final class KnockWall {
           knocked[c][v] = now.countOfName(plan.words, v, c);
         }
       }
-      return goodWays(plan, w, once, 0, once * n);
+      return goodWays(this, plan, w, once, 0, once * n);
     }
 
-    private long goodWays(Code plan, int w, int once, int depth, int last) {
+    private static long goodWays(Hearing by, Code plan, int w, int once, int depth, int last) {
       if (depth >= last || once < 1) {
-        return topOf(depths[last], plan.words.size) == w ? depths[last][w] : 0;
+        return topOf(by.depths[last], plan.words.size) == w ? by.depths[last][w] : 0;
       }
-      int[] sent = knocked[depth % once];
+      int[] sent = by.knocked[depth % once];
       long good = 0;
       for (int off = -1; off <= 1; off++) {
         if (plan.slips(off) > 0) {
-          listen(plan, sent, depth, sent[w] + off);
-          good += goodWays(plan, w, once, depth + 1, last);
+          by.listen(plan, sent, depth, sent[w] + off);
+          good += goodWays(by, plan, w, once, depth + 1, last);
         }
       }
       return good;
